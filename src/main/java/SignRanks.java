@@ -62,7 +62,7 @@ public final class SignRanks {
     }
 
     public int nextSmooth() throws IllegalStateException {
-        int rank = smoothRank() + (row.isSmooth() ? 1 : 0);
+        int rank = smoothRank() + (row.isSmooth(row.length()) ? 1 : 0);
         if (rank >= allSmooth()) {
             throw new IllegalStateException("there is no smooth one behind this one");
         }
@@ -165,11 +165,11 @@ public final class SignRanks {
     }
 
     public int undo() throws IllegalStateException {
-        if (saves.many() == 0) {
+        if (saves.held() == 0) {
             throw new IllegalStateException("there is no saved state");
         }
         gone = saves.restore(row);
-        return saves.many();
+        return saves.held();
     }
 
     // ---- looks; nothing is changed
@@ -219,7 +219,7 @@ public final class SignRanks {
             case 5:
                 return smoothRank();
             case 6:
-                return row.isSmooth() ? 1 : 0;
+                return row.isSmooth(row.length()) ? 1 : 0;
             case 7:
                 return row.inversions();
             case 8:
@@ -233,7 +233,7 @@ public final class SignRanks {
             case 12:
                 return gone;
             default:
-                return saves.many();
+                return saves.held();
         }
     }
 
@@ -303,17 +303,31 @@ public final class SignRanks {
         }
         int rank = rankOf(row);
         for (int place = 0; place < row.length(); place++) {
-            hash = mixedPlace(hash, place, rank);
+            hash = mixed(hash, sign(place));
+            hash = mixed(hash, digit(place));
+            for (int what = 0; what < LOOKS; what++) {
+                hash = mixed(hash, block(place, what));
+            }
+            hash = mixed(hash, ifSwapped(place, 0));
+            hash = mixed(hash, having(0, rank, place, 0));
         }
         for (int sign = 0; sign < SIGNS; sign++) {
             hash = mixed(hash, many(sign));
         }
-        hash = mixedMiddle(hash, all() / 2);
+        int middle = all() / 2;
+        for (int place = 0; place < row.length(); place++) {
+            hash = mixed(hash, signOf(middle, place));
+        }
+        hash = mixed(hash, stepsTo(middle));
         for (int what = 0; what < LOOKS; what++) {
             hash = mixed(hash, bestSwap(what));
         }
         hash = mixed(hash, bitsOf(share()));
-        return text.mixedInto(hash);
+        hash = mixed(hash, text.length());
+        for (int index = 0; index < text.length(); index++) {
+            hash = mixed(hash, text.at(index));
+        }
+        return hash;
     }
 
     // ---- arguments
@@ -462,25 +476,25 @@ public final class SignRanks {
         int sum = 0;
         for (int depth = 0; depth < work.length(); depth++) {
             for (int less = 0; less < work.at(depth); less++) {
-                bag.fill(work, depth);
-                int there = place < depth ? work.at(place) : less;
-                sum += havingBehind(less, place <= depth, there, sign);
+                sum += havingBehind(depth, less, place, sign);
             }
         }
         return sum;
     }
 
     /**
-     * Answers how many of the arrangements of the bag that begin with a sign have the wanted one
-     * at a place: the sign there, if that is settled, or else any place behind.
+     * Of those that begin as the work row does up to a depth and have the sign less there, answers
+     * how many have the wanted sign at the place.
      */
-    private int havingBehind(int first, boolean settled, int there, int wanted) {
-        int ways = bag.waysBehind(first);
-        if (settled) {
-            return there == wanted ? ways : 0;
+    private int havingBehind(int depth, int less, int place, int wanted) {
+        bag.fill(work, depth);
+        int ways = bag.waysBehind(less);
+        if (place > depth) {
+            bag.drop(less);
+            return part(ways, bag.of(wanted), bag.total());
         }
-        bag.drop(first);
-        return part(ways, bag.of(wanted), bag.total());
+        int there = place < depth ? work.at(place) : less;
+        return there == wanted ? ways : 0;
     }
 
     // ---- smooth ones
@@ -490,10 +504,8 @@ public final class SignRanks {
     }
 
     private int smoothInBlock(int k) {
-        for (int place = 1; place < k; place++) {
-            if (row.at(place) == row.at(place - 1)) {
-                return 0;
-            }
+        if (!row.isSmooth(k)) {
+            return 0;
         }
         prepareSmooth();
         bag.fill(row, k);
@@ -550,24 +562,6 @@ public final class SignRanks {
         return HASH_FACTOR * hash + value;
     }
 
-    private long mixedPlace(long hash, int place, int rank) {
-        long now = mixed(hash, sign(place));
-        now = mixed(now, digit(place));
-        for (int what = 0; what < LOOKS; what++) {
-            now = mixed(now, block(place, what));
-        }
-        now = mixed(now, ifSwapped(place, 0));
-        return mixed(now, having(0, rank, place, 0));
-    }
-
-    private long mixedMiddle(long hash, int middle) {
-        long now = hash;
-        for (int place = 0; place < row.length(); place++) {
-            now = mixed(now, signOf(middle, place));
-        }
-        return mixed(now, stepsTo(middle));
-    }
-
     /** Answers the bits of a double from 0 to below 1, as Double.doubleToLongBits, which the rules leave out. */
     private static long bitsOf(double value) {
         if (value <= 0.0) {
@@ -597,11 +591,11 @@ public final class SignRanks {
         }
 
         int at(int place) {
-            return has(place) ? signs[place] : 0;
+            return place >= 0 && place < length && place < MOST_PLACES ? signs[place] : 0;
         }
 
         private void set(int place, int sign) {
-            if (has(place)) {
+            if (place >= 0 && place < length && place < MOST_PLACES) {
                 signs[place] = sign;
             }
         }
@@ -682,8 +676,9 @@ public final class SignRanks {
             return unlike;
         }
 
-        boolean isSmooth() {
-            for (int place = 1; place < length; place++) {
+        /** Tells if no two neighbors of the first k signs are alike. */
+        boolean isSmooth(int k) {
+            for (int place = 1; place < k; place++) {
                 if (at(place) == at(place - 1)) {
                     return false;
                 }
@@ -701,7 +696,7 @@ public final class SignRanks {
             return pairs;
         }
 
-        boolean fallsBehind(int place) {
+        private boolean fallsBehind(int place) {
             return place < length - 1 && at(place) > at(place + 1);
         }
 
@@ -747,7 +742,7 @@ public final class SignRanks {
         }
 
         void drop(int sign) {
-            if (of(sign) > 0) {
+            if (sign >= 0 && sign < SIGNS && often[sign] > 0) {
                 often[sign]--;
                 total--;
             }
@@ -828,7 +823,10 @@ public final class SignRanks {
                 madeFor[sign] = bag.of(sign);
                 inCell[sign] = 0;
             }
-            int cells = same ? 0 : weigh();
+            if (same) {
+                return;
+            }
+            int cells = weigh();
             for (int cell = 0; cell < cells && cell < CELLS; cell++) {
                 fillCell(cell);
                 goOn();
@@ -905,7 +903,7 @@ public final class SignRanks {
             return length;
         }
 
-        private int at(int index) {
+        int at(int index) {
             return index >= 0 && index < length && index < MOST_CODES ? codes[index] : 0;
         }
 
@@ -956,14 +954,6 @@ public final class SignRanks {
                 }
             }
         }
-
-        long mixedInto(long hash) {
-            long now = mixed(hash, length);
-            for (int index = 0; index < length; index++) {
-                now = mixed(now, at(index));
-            }
-            return now;
-        }
     }
 
     /** The saved states, the oldest one first, each in a slot: what is counted, n, and the signs. */
@@ -971,10 +961,10 @@ public final class SignRanks {
         private static final int SLOT = MOST_PLACES + 2;
 
         private final int[] slots = new int[MOST_STATES * SLOT];
-        private int many;
+        private int held;
 
-        int many() {
-            return many;
+        int held() {
+            return held;
         }
 
         private int slot(int index) {
@@ -988,29 +978,31 @@ public final class SignRanks {
         }
 
         void keep(Row row, int gone) {
-            if (many >= MOST_STATES) {
+            if (held >= MOST_STATES) {
                 dropOldest();
             }
-            int start = many * SLOT;
+            int start = held * SLOT;
             setSlot(start, gone);
             setSlot(start + 1, row.length());
             for (int place = 0; place < row.length(); place++) {
                 setSlot(start + 2 + place, row.at(place));
             }
-            many++;
+            held++;
         }
 
         private void dropOldest() {
             for (int index = SLOT; index < slots.length; index++) {
                 setSlot(index - SLOT, slot(index));
             }
-            many--;
+            held--;
         }
 
         /** Makes a row that of the latest state, drops the state, and answers what was counted in it. */
         int restore(Row row) {
-            many--;
-            int start = many * SLOT;
+            if (held > 0) {
+                held--;
+            }
+            int start = held * SLOT;
             int length = slot(start + 1);
             row.clear();
             for (int place = 0; place < length && place < MOST_PLACES; place++) {

@@ -154,6 +154,9 @@ public final class PromisesTest {
         Check.same("gone to", x.count(12), 3);
         x.undo();
         shows(x, "aabc");
+        x.goTo(1);
+        Check.same("previous() of the second one", x.previous(), 2);
+        shows(x, "aabc");
         SignRanks alike = of("e");
         Check.same("previous() of the only one", alike.previous(), 0);
         Check.same("gone to", alike.count(12), 1);
@@ -523,6 +526,7 @@ public final class PromisesTest {
     private static void count() {
         counts(of("cabab"), "cabab", 5, 3, 30, 25, 12, 10, 1, 5, 2, 4, 14, 25, 0, 1);
         counts(of("bbaac"), "bbaac", 5, 3, 30, 18, 12, 9, 0, 4, 1, 2, 24, 18, 0, 1);
+        counts(of("abdc"), "abdc", 4, 4, 24, 1, 24, 1, 1, 1, 1, 3, 17, 1, 0, 1);
         counts(of("e"), "e", 1, 1, 1, 0, 1, 0, 1, 0, 0, 0, 0, 0, 0, 1);
         counts(of("a9b2"), "a9b2", 11, 2, 55, 0, 0, 0, 0, 0, 0, 0, 54, 0, 0, 1);
         counts(of("fe2d2c2b2a2"), "fe2d2c2b2a2", 11, 6, 1247400, 1247399, 478080, 478080, 0, 50, 5, 25, 0,

@@ -4,6 +4,7 @@ import java.util.concurrent.Callable;
 final class Check {
     private static int wrong = 0;
     private static int checks = 0;
+    private static String test = "";
 
     private Check() {
     }
@@ -59,10 +60,15 @@ final class Check {
         refused(x, what, IllegalStateException.class, call);
     }
 
+    /** What is wrong from here on is told with the test's name. */
+    static void begin(String name) {
+        test = name + ": ";
+    }
+
     private static void complain(String text) {
         wrong++;
         if (wrong <= 50) {
-            System.out.println(text);
+            System.out.println(test + text);
         }
     }
 

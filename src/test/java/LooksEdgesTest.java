@@ -89,8 +89,8 @@ public final class LooksEdgesTest extends Edges {
         digits(LARGE_LAST, 5, 4, 4, 3, 3, 2, 2, 1, 1, 0, 0);
         digits("fededcbcaba", 5, 4, 3, 4, 3, 2, 1, 2, 0, 1, 0);
         test("promise 19, digit: the arrangement can be found again by the digits", () -> {
-            SignRanks x = of("abacb");
             for (int rank = 0; rank < 30; rank++) {
+                SignRanks x = of("abacb");
                 x.goTo(rank);
                 Check.holds("found again", byDigits(x, "aabbc").equals(row(x)));
             }

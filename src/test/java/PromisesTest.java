@@ -592,9 +592,10 @@ public final class PromisesTest {
             Check.same("having all, c", x.having(0, 30, place, 2), 6);
             Check.same("having all, d", x.having(0, 30, place, 3), 0);
             for (int sign = 0; sign < 6; sign++) {
+                SignRanks each = of("cabab");
                 for (int rank = 0; rank < 30; rank++) {
-                    int due = x.signOf(rank, place) == sign ? 1 : 0;
-                    Check.same("having one", x.having(rank, rank + 1, place, sign), due);
+                    int due = each.signOf(rank, place) == sign ? 1 : 0;
+                    Check.same("having one", each.having(rank, rank + 1, place, sign), due);
                 }
             }
         }
@@ -691,8 +692,8 @@ public final class PromisesTest {
         SignRanks one = of("f");
         Check.same("digest() of one sign", one.digest(), hash(1, 1, 1, 0, 1, 0, 1, 0, 0, 0, 0, 0, 0, 1,
                 5, 0, 0, 1, 1, 0, 0, 0, 0, 0, 0, 0, 1, 5, 0, -1, -1, -1, 0, 0));
-        SignRanks large = of("a2b2c2d2e2f");
         for (int rank = 1; rank < 1247400; rank += 12345) {
+            SignRanks large = of("a2b2c2d2e2f");
             large.goTo(rank);
             Check.same("the bits of share", tail(large), bits(rank / 1247400.0));
         }

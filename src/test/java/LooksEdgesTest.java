@@ -256,6 +256,12 @@ public final class LooksEdgesTest extends Edges {
         counts(LARGE_LAST, 11, 6, 1247400, 1247399, 478080, 478080, 0, 50, 5, 25, 0, 1247399);
         counts("fededcbcaba", 11, 6, 1247400, 1244872, 478080, 478079, 1, 47, 7, 36, 23313, 1244872);
         counts("ababcdcdefe", 11, 6, 1247400, 22711, 478080, 0, 1, 3, 3, 18, 1133908, 22711);
+        for (int alike = 1; alike <= 10; alike++) {
+            int all = alike + 1;
+            String signs = "b" + "c".repeat(alike);
+            test("promise 22, count: 2, N, of one sign and " + alike + " other ones, alike",
+                    () -> look(signs, all, x -> x.count(2)));
+        }
         test("promise 22, count: 5, the smooth rank, of each one, itself not counted", () -> {
             int[] due = {0, 0, 0, 0, 1, 2, 2, 2, 3, 4, 4, 5, 5, 5, 5, 6, 7, 8, 9, 9, 9, 9, 9, 10, 10, 10, 11, 11, 11,
                 12};

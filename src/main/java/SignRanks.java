@@ -358,7 +358,7 @@ public final class SignRanks {
         saves.keep(row, gone);
     }
 
-    /** Goes there, and answers how many places have another sign then. */
+    /** Answers how many places change: they are counted before the row is overwritten. */
     private int goToRank(int rank) {
         layOut(rank);
         int changed = row.placesUnlike(work);
@@ -366,7 +366,7 @@ public final class SignRanks {
         return changed;
     }
 
-    /** Takes the arrangement that was laid out, and answers its rank. */
+    /** Takes what the work row holds; until here a call that throws has changed nothing that can be seen. */
     private int arrive() {
         save();
         row.become(work);
@@ -403,7 +403,7 @@ public final class SignRanks {
         return lowestRank(some, some.length());
     }
 
-    /** Answers the lowest rank of those that begin with the same k signs. */
+    /** At each of the first k places, those of the block with a lesser sign there lie before. */
     private int lowestRank(Row some, int k) {
         bag.fill(some, 0);
         int size = bag.ways();
@@ -440,7 +440,7 @@ public final class SignRanks {
         return rankOf(work);
     }
 
-    /** Lays the arrangement with a rank out in the work row. */
+    /** Lays out in the work row, so that looks can use it too; the rank is one that there is. */
     private void layOut(int rank) {
         work.clear();
         bag.fill(row, 0);
@@ -460,12 +460,12 @@ public final class SignRanks {
         }
     }
 
-    /** Answers how many of size are the part that some have of all; it always comes out even. */
+    /** Each single sign begins equally many of the arrangements, so the division comes out even. */
     private static int part(int size, int some, int all) {
         return all > 0 ? size * some / all : 0;
     }
 
-    /** Answers how many arrangements with a rank less than this one have the sign at the place. */
+    /** A range is what lies below its end, less what lies below its beginning. */
     private int havingBelow(int rank, int place, int sign) {
         bag.fill(row, 0);
         int size = bag.ways();
@@ -530,7 +530,7 @@ public final class SignRanks {
         return rank;
     }
 
-    /** Lays the smooth arrangement with a smooth rank out in the work row. */
+    /** As layOut, among the smooth ones; a sign like the one before it begins none of them. */
     private void layOutSmooth(int rank) {
         prepareSmooth();
         work.clear();
@@ -550,7 +550,7 @@ public final class SignRanks {
         }
     }
 
-    /** Fills the bag with all signs of the row, and the table for them. */
+    /** The signs may be others since the table was made, so this goes ahead of each use of it. */
     private void prepareSmooth() {
         bag.fill(row, 0);
         smooth.prepare(bag);
@@ -646,12 +646,11 @@ public final class SignRanks {
             }
         }
 
-        /** Moves all signs one place to the right, the last one to the place 0. */
         void roll() {
             bringAhead(length - 1, 0);
         }
 
-        /** Moves the sign at a place to a lower one, past those between. */
+        /** Exchanges neighbors only, so the others keep their order. */
         void bringAhead(int from, int to) {
             for (int place = from; place > to; place--) {
                 exchange(place, place - 1);
@@ -748,7 +747,6 @@ public final class SignRanks {
             }
         }
 
-        /** Takes the signs of a row from a place on. */
         void fill(Row row, int from) {
             total = 0;
             for (int sign = 0; sign < SIGNS; sign++) {
@@ -775,7 +773,7 @@ public final class SignRanks {
             return unlike;
         }
 
-        /** Answers how many arrangements the signs have. */
+        /** The number of arrangements: like signs can be exchanged among themselves without a new one. */
         int ways() {
             int ways = factorial(total);
             for (int sign = 0; sign < SIGNS; sign++) {
@@ -785,7 +783,7 @@ public final class SignRanks {
             return ways;
         }
 
-        /** Answers how many of the arrangements begin with a sign. */
+        /** Takes the sign out and puts it back: the second way reckons each unlike sign by itself. */
         int waysBehind(int sign) {
             if (of(sign) == 0) {
                 return 0;
@@ -815,7 +813,7 @@ public final class SignRanks {
         private final int[] all = new int[CELLS];
         private final int[] starting = new int[CELLS * SIGNS];
 
-        /** Makes the table for a bag, if it isn't there yet. */
+        /** Most calls ask for the same bag again: then the table stands. */
         void prepare(Bag bag) {
             boolean same = true;
             for (int sign = 0; sign < SIGNS; sign++) {
@@ -833,7 +831,7 @@ public final class SignRanks {
             }
         }
 
-        /** Sets the weights of the digits, and answers how many cells there are. */
+        /** Answers how many cells there are: the weight that one more digit would have. */
         private int weigh() {
             int cells = 1;
             for (int sign = 0; sign < SIGNS; sign++) {
@@ -843,7 +841,7 @@ public final class SignRanks {
             return cells;
         }
 
-        /** Makes inCell the bag of the next cell. */
+        /** Counts inCell on by one in its mixed base, as the cell's index goes on by one. */
         private void goOn() {
             int sign = 0;
             while (sign < SIGNS - 1 && inCell[sign] >= madeFor[sign]) {
@@ -882,12 +880,11 @@ public final class SignRanks {
             return cell;
         }
 
-        /** Answers how many smooth arrangements of a bag begin with a sign. */
         int startingWith(Bag bag, int sign) {
             return startingOf(cellOf(bag), sign);
         }
 
-        /** Answers how many smooth arrangements of a bag can stand behind a sign, or NONE. */
+        /** Those of a bag that may stand behind a sign; NONE, ahead of the place 0, rules none out. */
         int behind(Bag bag, int last) {
             int cell = cellOf(bag);
             return allOf(cell) - startingOf(cell, last);
@@ -943,7 +940,6 @@ public final class SignRanks {
             return length;
         }
 
-        /** Makes a row the arrangement that the text tells. */
         void writeTo(Row row) {
             row.clear();
             for (int index = 0; index < length; index++) {
@@ -997,7 +993,7 @@ public final class SignRanks {
             held--;
         }
 
-        /** Makes a row that of the latest state, drops the state, and answers what was counted in it. */
+        /** Fills the row, and answers what else a state holds: the arrangements gone to. */
         int restore(Row row) {
             if (held > 0) {
                 held--;

@@ -1,10 +1,15 @@
 import java.lang.reflect.InvocationTargetException;
 import java.lang.reflect.Method;
 
-/** Long runs of mixed calls, right and wrong ones, each answered by SignRanks as by the Model. */
+/**
+ * Long runs of mixed calls, right and wrong ones, each answered by SignRanks as by the Model; a run has the
+ * 512 calls that the document promises of an object.
+ */
 public final class ModelTest {
     private static final int CALLS = 512;
     private static final int RUNS = 400;
+    /** The calls by which runs are typed: clearBuffer, at most 12 append, firstError. */
+    private static final int MOST_TYPED = 14;
     /** The Model writes all arrangements down; most runs stay where they are few. */
     private static final int MANY = 3000;
     private static final int LARGE_CALLS = 120;
@@ -102,10 +107,9 @@ public final class ModelTest {
         Check.same("firstError of " + text, x.firstError(), model.firstError());
     }
 
-    /** Types runs of few letters, so that longer rows whose arrangements are few come about. */
-    private static void typeRuns(SignRanks x, Model model) {
-        x.clearBuffer();
-        model.clearBuffer();
+    /** Types runs of few letters, so that longer rows whose arrangements are few come about; answers its calls. */
+    private static int typeRuns(SignRanks x, Model model) {
+        Check.same("clearBuffer", x.clearBuffer(), model.clearBuffer());
         int letters = 1 + chosen(2);
         int from = chosen(5);
         int runs = 1 + chosen(6);
@@ -114,6 +118,7 @@ public final class ModelTest {
             text.append((char) ('a' + from + chosen(letters))).append((char) ('2' + chosen(3)));
         }
         type(x, model, text.toString());
+        return text.length() + 2;
     }
 
     private static void run(int number) throws Exception {
@@ -122,18 +127,17 @@ public final class ModelTest {
         Model model = new Model();
         StringBuilder told = new StringBuilder("run ").append(number).append(":");
         int calls = 0;
-        while (calls < CALLS - 20) {
+        while (calls < CALLS - 1) {
             String callable = CALLABLE[chosen(CALLABLE.length)];
             if (model.size() <= MANY || !changesSigns(callable) || callable.startsWith("take")) {
                 call(x, model, callable, told);
                 calls++;
             }
-            if (chosen(40) == 0) {
-                typeRuns(x, model);
-                calls += 14;
+            if (chosen(40) == 0 && calls + MOST_TYPED < CALLS) {
+                calls += typeRuns(x, model);
             }
         }
-        Check.same(told + " digest", x.digest(), model.digest());
+        Check.same(told + " digest, the call " + CALLS, x.digest(), model.digest());
     }
 
     private static void largeRun(String text) throws Exception {

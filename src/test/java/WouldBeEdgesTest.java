@@ -1,3 +1,8 @@
+import java.util.ArrayList;
+import java.util.LinkedHashMap;
+import java.util.List;
+import java.util.Map;
+import java.util.TreeSet;
 import java.util.function.Supplier;
 
 /** Each boundary case that the document names of promises 23 to 29, from ifSwapped to digest, has its test. */
@@ -309,6 +314,34 @@ public final class WouldBeEdgesTest extends Edges {
         steps("baab", 2, 1, 2, 0, 1, 2);
         steps("bbaa", 4, 3, 2, 2, 1, 0);
         steps("cbaa", 5, 4, 4, 3, 3, 2, 3, 2, 1, 2, 1, 0);
+        for (String signs : new String[] {"cabab", "bbaac", "abcba", "fedcba", "abcabc", "aabbaab", "cbacab"}) {
+            stepsWalked(signs);
+        }
+    }
+
+    /** Walks over all exchanges of neighbors, and counts how far each arrangement is; an object tells 100 ranks. */
+    private static void stepsWalked(String signs) {
+        Map<String, Integer> far = new LinkedHashMap<>();
+        List<String> reached = new ArrayList<>(List.of(signs));
+        far.put(signs, 0);
+        for (int i = 0; i < reached.size(); i++) {
+            String row = reached.get(i);
+            for (int place = 0; place + 1 < row.length(); place++) {
+                String exchanged = row.substring(0, place) + row.charAt(place + 1) + row.charAt(place)
+                        + row.substring(place + 2);
+                if (far.putIfAbsent(exchanged, far.get(row) + 1) == null) {
+                    reached.add(exchanged);
+                }
+            }
+        }
+        test("promise 26, stepsTo: each rank from " + signs + ", walked to", () -> {
+            List<String> order = new ArrayList<>(new TreeSet<>(reached));
+            SignRanks x = of(signs);
+            for (int rank = 0; rank < order.size(); rank++) {
+                x = rank % 100 == 0 ? of(signs) : x;
+                Check.same("stepsTo(" + rank + ")", x.stepsTo(rank), far.get(order.get(rank)));
+            }
+        });
     }
 
     private static void bestSwapRanges() {

@@ -132,7 +132,8 @@ public final class LanguageTest extends TreePathScanner<Void, Void> {
     /** Numbers, sums and products of constants, or a row of numbers: nothing is called or made with "new". */
     private static boolean isWrittenOut(ExpressionTree value) {
         String text = value.toString();
-        return value instanceof NewArrayTree row ? row.getType() == null : !text.contains("(") && !text.contains("new ");
+        boolean settled = !text.contains("(") && !text.contains("new ");
+        return value instanceof NewArrayTree row ? row.getType() == null : settled;
     }
 
     @Override

@@ -1,11 +1,14 @@
 import com.sun.management.ThreadMXBean;
 import java.lang.management.ManagementFactory;
 
-/** The calls make nothing: 512 of the dearest ones leave the room as it is. */
+/** The calls make nothing: all that an object is promised for, the dearest ones, leave the room as it is. */
 public final class RoomTest {
     private static final int CALLS = 512;
+    private static final String SIGNS = "abcdefabcd";
     /** What the measuring itself may take. */
     private static final long FREE_BYTES = 4096;
+    /** Some 4000 fields and elements; a run has 7.3 million of them. */
+    private static final long OBJECT_BYTES = 20000;
 
     private RoomTest() {
     }
@@ -14,23 +17,30 @@ public final class RoomTest {
         return ((ThreadMXBean) ManagementFactory.getThreadMXBean()).getCurrentThreadAllocatedBytes();
     }
 
+    private static SignRanks object() {
+        SignRanks x = new SignRanks();
+        for (char code : SIGNS.toCharArray()) {
+            x.append(code);
+        }
+        x.read();
+        return x;
+    }
+
+    /** Eight calls a round, as many rounds as are left of the object's calls. */
     private static long work(SignRanks x) {
         long sum = 0;
-        for (int call = 0; call < CALLS / 8; call++) {
-            sum += x.digest() + x.next() + x.bestSwap(0) + x.put(0, call % 6) + x.count(4);
+        int rounds = (CALLS - SIGNS.length() - 1) / 8;
+        for (int round = 0; round < rounds; round++) {
+            sum += x.digest() + x.next() + x.bestSwap(0) + x.put(0, round % 6) + x.count(4);
             sum += x.take(0) + x.undo() + x.undo();
         }
         return sum;
     }
 
     public static void main(String[] args) {
-        SignRanks x = new SignRanks();
-        for (char code : "abcdefabcd".toCharArray()) {
-            x.append(code);
-        }
-        x.read();
         made();
-        work(x);
+        work(object());
+        SignRanks x = object();
         long before = made();
         work(x);
         long bytes = made() - before;
@@ -38,7 +48,7 @@ public final class RoomTest {
         long ahead = made();
         new SignRanks();
         long object = made() - ahead;
-        Check.holds("an object takes " + object + " bytes", object <= 20000);
+        Check.holds("an object takes " + object + " bytes", object <= OBJECT_BYTES);
         Check.end("RoomTest");
     }
 }
